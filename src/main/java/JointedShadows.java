@@ -20,9 +20,6 @@ public final class JointedShadows {
     /** Stands for the base where a limb's number could stand: as a parent, and as a rod. */
     private static final int BASE = -1;
 
-    /** No error, where a check answers with an error constant. */
-    private static final int FINE = 0;
-
     /** Euclid's steps for two long numbers stay below this. */
     private static final int MOST_DIVISIONS = 100;
 
@@ -79,9 +76,6 @@ public final class JointedShadows {
         if (!inRange(length, 1, 20) || !inRange(direction, 0, DIRECTIONS - 1)) {
             return BAD_VALUE;
         }
-        if (owner.limbs >= MOST_LIMBS) {
-            return FULL;
-        }
         return owner.grow(parent, length, direction);
     }
 
@@ -113,9 +107,6 @@ public final class JointedShadows {
         if (!isBeat(beat) || !inRange(eighths, -7, 7) || eighths == 0) {
             return BAD_VALUE;
         }
-        if (script.size >= MOST_MOVES) {
-            return FULL;
-        }
         Move turn = new Move(script.size, beat, figure, limb);
         turn.eighths = eighths;
         return script.insert(turn);
@@ -127,9 +118,6 @@ public final class JointedShadows {
         }
         if (!isBeat(beat) || !inRange(dx, -50, 50) || !inRange(dy, -50, 50) || !inRange(dplane, -100, 100)) {
             return BAD_VALUE;
-        }
-        if (script.size >= MOST_MOVES) {
-            return FULL;
         }
         Move shift = new Move(script.size, beat, figure, BASE);
         shift.dx = dx;
@@ -182,8 +170,7 @@ public final class JointedShadows {
         if (first == null || second == null || !isBeat(beat) || !inRange(part, 0, 1)) {
             return NO_VALUE;
         }
-        firstPose.take(first, script, beat, screenDistance);
-        secondPose.take(second, script, beat, screenDistance);
+        takePoses(first, second, beat);
         long p = firstPose.plane;
         long q = secondPose.plane;
         // Both boxes times p * q / D are integers; the area is brought back to the screen's measure below.
@@ -231,10 +218,9 @@ public final class JointedShadows {
             return BAD_VALUE;
         }
         int inside = 0;
-        for (int number = 0; number < figureCount; number++) {
-            firstPose.take(figures[number], script, beat, screenDistance);
-            if (firstPose.casts(x, y, screenDistance)) {
-                inside |= 1 << number;
+        for (Figure figure : figures) {
+            if (figure != null && firstPose.take(figure, script, beat, screenDistance).isWithin(x, y, screenDistance)) {
+                inside |= 1 << figure.number;
             }
         }
         return inside;
@@ -244,20 +230,13 @@ public final class JointedShadows {
         if (!isBeat(beat)) {
             return BAD_VALUE;
         }
-        int found = NONE;
-        long foundHeight = 0;
-        long foundPlane = 1;
-        for (int number = 0; number < figureCount; number++) {
-            firstPose.take(figures[number], script, beat, screenDistance);
-            long height = firstPose.height();
-            // The same distance stands on both sides and is left out.
-            if (found == NONE || height * foundPlane > foundHeight * firstPose.plane) {
-                found = number;
-                foundHeight = height;
-                foundPlane = firstPose.plane;
+        Figure found = null;
+        for (Figure figure : figures) {
+            if (figure != null && (found == null || isHigher(figure, found, beat))) {
+                found = figure;
             }
         }
-        return found;
+        return found == null ? NONE : found.number;
     }
 
     public int planeFor(int figure, int beat, int height) {
@@ -308,9 +287,6 @@ public final class JointedShadows {
         if (!inRange(figures, 0, (1 << MOST_FIGURES) - 1)) {
             return BAD_VALUE;
         }
-        if (scenes.size >= MOST_SCENES) {
-            return FULL;
-        }
         return scenes.append(figures);
     }
 
@@ -348,23 +324,33 @@ public final class JointedShadows {
 
     private int limbsOfAll() {
         int limbs = 0;
-        for (int number = 0; number < figureCount; number++) {
-            limbs += figures[number].limbs;
+        for (Figure figure : figures) {
+            limbs += figure == null ? 0 : figure.limbs;
         }
         return limbs;
     }
 
     private int handsOfAll(int beat) {
         int needed = 0;
-        for (int number = 0; number < figureCount; number++) {
-            needed += figures[number].handsFor(script.rodsMoved(number, beat));
+        for (Figure figure : figures) {
+            needed += figure == null ? 0 : figure.handsFor(script.rodsMoved(figure.number, beat));
         }
         return needed;
     }
 
-    private int crossingLimbs(Figure first, Figure second, int beat) {
+    /** Heights are top minus bottom times D / p; both sides are multiplied by the planes and divided by D. */
+    private boolean isHigher(Figure first, Figure second, int beat) {
+        takePoses(first, second, beat);
+        return firstPose.height() * secondPose.plane > secondPose.height() * firstPose.plane;
+    }
+
+    private void takePoses(Figure first, Figure second, int beat) {
         firstPose.take(first, script, beat, screenDistance);
         secondPose.take(second, script, beat, screenDistance);
+    }
+
+    private int crossingLimbs(Figure first, Figure second, int beat) {
+        takePoses(first, second, beat);
         int pairs = 0;
         for (int limb = 0; limb < first.limbs; limb++) {
             firstSegment.lay(firstPose, first.start(limb), limb + 1, secondPose.plane);
@@ -418,8 +404,11 @@ public final class JointedShadows {
             return inRange(limb, 0, limbs - 1);
         }
 
-        /** Adds a limb, which must have room, and gives its number. */
+        /** Adds a limb and gives its number, or FULL. */
         int grow(int limbParent, int limbLength, int limbDirection) {
+            if (limbs >= MOST_LIMBS) {
+                return FULL;
+            }
             int limb = limbs;
             parent[limb] = limbParent;
             length[limb] = limbLength;
@@ -472,15 +461,18 @@ public final class JointedShadows {
         }
     }
 
-    /** The moves, kept in the order in which they act: by beat, and by number within a beat. */
+    /** The moves, kept in the order in which they act: by beat, and by number within a beat; then null. */
     private static final class Script {
         final Move[] moves = new Move[MOST_MOVES];
         int size = 0;
 
-        /** Adds a move, which must have room and the next number, and gives its number. */
+        /** Adds a move, whose number is the next one, and gives its number, or FULL. */
         int insert(Move move) {
+            if (size >= MOST_MOVES) {
+                return FULL;
+            }
             int place = size;
-            while (place > 0 && moves[place - 1].beat > move.beat) {
+            while (place > 0 && isAfter(moves[place - 1], move.beat)) {
                 moves[place] = moves[place - 1];
                 place--;
             }
@@ -489,12 +481,17 @@ public final class JointedShadows {
             return move.number;
         }
 
+        private static boolean isAfter(Move move, int beat) {
+            return move != null && move.beat > beat;
+        }
+
         /** Removes all moves but those with numbers below the given one. */
         void keepFirst(int numbers) {
             int kept = 0;
             for (int i = 0; i < size; i++) {
                 Move move = moves[i];
-                if (move.number < numbers) {
+                moves[i] = null;
+                if (move != null && move.number < numbers) {
                     moves[kept] = move;
                     kept++;
                 }
@@ -503,8 +500,8 @@ public final class JointedShadows {
         }
 
         boolean hasMoveIn(int beat) {
-            for (int i = 0; i < size; i++) {
-                if (moves[i].beat == beat) {
+            for (Move move : moves) {
+                if (move != null && move.beat == beat) {
                     return true;
                 }
             }
@@ -514,9 +511,8 @@ public final class JointedShadows {
         /** The active rods of a figure in a beat, as a bit set of rodBit. */
         int rodsMoved(int figure, int beat) {
             int rods = 0;
-            for (int i = 0; i < size; i++) {
-                Move move = moves[i];
-                if (move.beat == beat && move.figure == figure) {
+            for (Move move : moves) {
+                if (move != null && move.beat == beat && move.figure == figure) {
                     rods |= rodBit(move.limb);
                 }
             }
@@ -540,16 +536,19 @@ public final class JointedShadows {
         int bottom = 0;
         int top = 0;
 
-        void take(Figure figure, Script script, int beat, int distance) {
+        Pose take(Figure figure, Script script, int beat, int distance) {
             stand(figure, distance);
-            for (int i = 0; i < script.size; i++) {
-                Move move = script.moves[i];
-                if (move.beat <= beat && move.figure == figure.number) {
+            for (Move move : script.moves) {
+                if (move == null || move.beat > beat) {
+                    break;
+                }
+                if (move.figure == figure.number) {
                     follow(move, distance);
                 }
             }
             layPoints(figure);
             layBox(figure.limbs);
+            return this;
         }
 
         private void stand(Figure figure, int distance) {
@@ -617,7 +616,7 @@ public final class JointedShadows {
         }
 
         /** Whether the shadow stays within this half width and half height of the screen. */
-        boolean casts(int halfWidth, int halfHeight, int distance) {
+        boolean isWithin(int halfWidth, int halfHeight, int distance) {
             int farX = Math.max(-left, right);
             int farY = Math.max(-bottom, top);
             return farX * distance <= halfWidth * plane && farY * distance <= halfHeight * plane;
@@ -642,20 +641,23 @@ public final class JointedShadows {
             endY = (long) pose.y[end] * otherPlane;
         }
 
-        /** Two segments have a common point if their boxes have one, and neither lies on one side of the other. */
+        /**
+         * Two segments have a common point if each one meets the other's line; the boxes decide where both lie
+         * on the same line.
+         */
         boolean meets(Segment other) {
-            return reaches(startX, endX, other.startX, other.endX)
-                    && reaches(startY, endY, other.startY, other.endY)
-                    && parts(other)
-                    && other.parts(this);
+            return rangesMeet(startX, endX, other.startX, other.endX)
+                    && rangesMeet(startY, endY, other.startY, other.endY)
+                    && lineMeets(other)
+                    && other.lineMeets(this);
         }
 
-        private static boolean reaches(long a, long b, long c, long d) {
+        private static boolean rangesMeet(long a, long b, long c, long d) {
             return Math.max(a, b) >= Math.min(c, d) && Math.max(c, d) >= Math.min(a, b);
         }
 
         /** Whether the ends of the other segment are not both strictly on one side of this one's line. */
-        private boolean parts(Segment other) {
+        private boolean lineMeets(Segment other) {
             return side(other.startX, other.startY) * side(other.endX, other.endY) <= 0;
         }
 
@@ -676,8 +678,11 @@ public final class JointedShadows {
          */
         private final int[] leastAfter = new int[MOST_SCENES << (MOST_SCENES - 1)];
 
-        /** Adds a scene, which must have room, and gives its number. */
+        /** Adds a scene and gives its number, or FULL. */
         int append(int figures) {
+            if (size >= MOST_SCENES) {
+                return FULL;
+            }
             int scene = size;
             cast[scene] = figures;
             size++;
