@@ -105,6 +105,7 @@ public final class ScriptPromisesTest {
         due.is("greatest dplane", t.addShift(0, 0, 0, 0, GREATEST), -3);
         due.is("count(1)", t.count(1), 0);
         due.is("the first good one", t.addShift(0, 0, -50, 50, -100), 0);
+        due.is("dplane 100", t.addShift(0, 0, 50, -50, 100), 1);
     }
 
     private static void planeIsKeptInRange() {

@@ -100,6 +100,18 @@ public final class ShadowPromisesTest {
         overlapIs(t, 0, 1, 5, 2500, 49);
         t.addShift(6, 0, -5, 0, 0);
         overlapIs(t, 0, 1, 6, 0, 1);
+        JointedShadows thin = new JointedShadows();
+        thin.addFigure(0, 0, 100);
+        thin.addLimb(0, -1, 1, 1);
+        thin.addFigure(0, 0, 99);
+        thin.addLimb(1, -1, 1, 5);
+        thin.addShift(0, 1, 1, 1, 0);
+        overlapIs(thin, 0, 1, 0, 1, 1);
+        thin.addShift(1, 1, 0, -1, 0);
+        thin.addShift(2, 1, 0, 1, -49);
+        thin.addShift(2, 1, 0, 0, -50);
+        overlapIs(thin, 0, 1, 1, 0, 1);
+        overlapIs(thin, 0, 1, 2, 1, 1);
         t.addFigure(6, 6, 70);
         overlapIs(t, 2, 1, 6, 0, 1);
         overlapIs(t, 2, 2, 6, 0, 1);

@@ -82,6 +82,8 @@ public final class StagePromisesTest {
         due.is("the seventh", t.addFigure(0, 0, 20), -4);
         due.is("a wrong seventh", t.addFigure(0, 0, 21), -3);
         due.is("count(0)", t.count(0), 6);
+        due.is("figure 6 of six", t.position(6, 0, 0, 0), Long.MIN_VALUE);
+        due.is("a limb for figure 6 of six", t.addLimb(6, -1, 1, 0), -1);
         due.is("x of figure 2", t.position(2, 0, 0, 0), 12);
         due.is("y of figure 2", t.position(2, 0, 0, 1), -34);
         due.is("direction of a base", t.position(2, 0, 0, 2), 0);
