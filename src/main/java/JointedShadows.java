@@ -695,7 +695,7 @@ public final class JointedShadows {
         }
 
         int leastCost() {
-            return size == 0 ? 0 : least(allButFirst(), 0);
+            return least(allButFirst(), 0);
         }
 
         /** The scene at a place of the best order; the place must be below the number of scenes. */
@@ -711,7 +711,8 @@ public final class JointedShadows {
 
         /** The empty set's row is 0 from the beginning; a set without one of its scenes has a lower number. */
         private void fillLeast() {
-            for (int set = 1; set <= allButFirst(); set++) {
+            int all = allButFirst();
+            for (int set = 1; set <= all; set++) {
                 for (int last = 0; last < size; last++) {
                     if (!isIn(set, last)) {
                         leastAfter[set * MOST_SCENES + last] = costVia(set, last, firstBestNext(set, last));
@@ -742,8 +743,9 @@ public final class JointedShadows {
             return leastAfter[set * MOST_SCENES + last];
         }
 
+        /** Empty also if there are no scenes. */
         private int allButFirst() {
-            return (1 << (size - 1)) - 1;
+            return ((1 << size) - 1) >> 1;
         }
 
         private static boolean isIn(int set, int scene) {

@@ -6,7 +6,7 @@ import java.util.Arrays;
 import java.util.Set;
 import java.util.TreeSet;
 
-/** The public face is the document's, and nothing else can be seen from outside (LANGUAGE.md, rules 1, 2 and 5). */
+/** The public face is the document's, and nothing else can be seen from outside (LANGUAGE.md, rules 1, 2, 5 and 11). */
 public final class FaceTest {
     private static final Due due = new Due();
     private static final String[] METHODS = {
@@ -29,13 +29,26 @@ public final class FaceTest {
         methods(face);
         fields(face);
         constants();
+        sizes(face);
         for (Class<?> inner : face.getDeclaredClasses()) {
             int kind = inner.getModifiers();
             due.isTrue(inner + " is static", Modifier.isStatic(kind));
             due.isTrue(inner + " is hidden", !Modifier.isPublic(kind) && !Modifier.isProtected(kind));
+            sizes(inner);
         }
         due.isTrue("at most some twelve classes", face.getDeclaredClasses().length < 12);
         due.finish();
+    }
+
+    private static void sizes(Class<?> type) {
+        int fields = 0;
+        for (Field field : type.getDeclaredFields()) {
+            fields += Modifier.isStatic(field.getModifiers()) ? 0 : 1;
+        }
+        due.isTrue(type + ": at most some twenty fields", fields <= 20);
+        for (Method method : type.getDeclaredMethods()) {
+            due.isTrue(method + ": at most seven parameters", method.getParameterCount() <= 7);
+        }
     }
 
     private static void constructors(Class<?> face) {

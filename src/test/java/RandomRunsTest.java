@@ -82,15 +82,8 @@ public final class RandomRunsTest {
     }
 
     private static void oneCall(int call) {
-        int[] a = arguments(call);
-        StringBuilder text = new StringBuilder(NAMES[call]).append('(');
-        for (int i = 0; i < a.length; i++) {
-            text.append(i == 0 ? "" : ", ").append(a[i]);
-        }
-        text.append(')');
-        long got = call < 11 ? firstHalf(call, a) : secondHalf(call, a);
-        long want = call < 11 ? plainFirstHalf(call, a) : plainSecondHalf(call, a);
-        due.is(text.toString(), got, want);
+        Row row = new Row(NAMES[call], arguments(call), 0);
+        due.is(row.call(), row.answer(theatre), row.answer(plain));
     }
 
     private static int[] arguments(int call) {
@@ -120,69 +113,5 @@ public final class RandomRunsTest {
 
     private static int half() {
         return number(0, random.nextBoolean() ? 20000 : 300);
-    }
-
-    private static long firstHalf(int call, int[] a) {
-        switch (call) {
-            case 0: return theatre.setDistance(a[0]);
-            case 1: return theatre.addFigure(a[0], a[1], a[2]);
-            case 2: return theatre.addLimb(a[0], a[1], a[2], a[3]);
-            case 3: return theatre.count(a[0]);
-            case 4: return theatre.addTurn(a[0], a[1], a[2], a[3]);
-            case 5: return theatre.addShift(a[0], a[1], a[2], a[3], a[4]);
-            case 6: return theatre.removeMoves(a[0]);
-            case 7: return theatre.position(a[0], a[1], a[2], a[3]);
-            case 8: return theatre.box(a[0], a[1], a[2], a[3]);
-            case 9: return theatre.overlap(a[0], a[1], a[2], a[3]);
-            default: return theatre.crossings(a[0], a[1], a[2]);
-        }
-    }
-
-    private static long plainFirstHalf(int call, int[] a) {
-        switch (call) {
-            case 0: return plain.setDistance(a[0]);
-            case 1: return plain.addFigure(a[0], a[1], a[2]);
-            case 2: return plain.addLimb(a[0], a[1], a[2], a[3]);
-            case 3: return plain.count(a[0]);
-            case 4: return plain.addTurn(a[0], a[1], a[2], a[3]);
-            case 5: return plain.addShift(a[0], a[1], a[2], a[3], a[4]);
-            case 6: return plain.removeMoves(a[0]);
-            case 7: return plain.position(a[0], a[1], a[2], a[3]);
-            case 8: return plain.box(a[0], a[1], a[2], a[3]);
-            case 9: return plain.overlap(a[0], a[1], a[2], a[3]);
-            default: return plain.crossings(a[0], a[1], a[2]);
-        }
-    }
-
-    private static long secondHalf(int call, int[] a) {
-        switch (call) {
-            case 11: return theatre.nextCrossing(a[0], a[1], a[2]);
-            case 12: return theatre.within(a[0], a[1], a[2]);
-            case 13: return theatre.highest(a[0]);
-            case 14: return theatre.planeFor(a[0], a[1], a[2]);
-            case 15: return theatre.hands(a[0]);
-            case 16: return theatre.busiestBeat();
-            case 17: return theatre.activeRods(a[0], a[1]);
-            case 18: return theatre.addScene(a[0]);
-            case 19: return theatre.clearScenes();
-            case 20: return theatre.bestScene(a[0]);
-            default: return theatre.bestCost();
-        }
-    }
-
-    private static long plainSecondHalf(int call, int[] a) {
-        switch (call) {
-            case 11: return plain.nextCrossing(a[0], a[1], a[2]);
-            case 12: return plain.within(a[0], a[1], a[2]);
-            case 13: return plain.highest(a[0]);
-            case 14: return plain.planeFor(a[0], a[1], a[2]);
-            case 15: return plain.hands(a[0]);
-            case 16: return plain.busiestBeat();
-            case 17: return plain.activeRods(a[0], a[1]);
-            case 18: return plain.addScene(a[0]);
-            case 19: return plain.clearScenes();
-            case 20: return plain.bestScene(a[0]);
-            default: return plain.bestCost();
-        }
     }
 }
