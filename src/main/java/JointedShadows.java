@@ -107,9 +107,12 @@ public final class JointedShadows {
         if (!isBeat(beat) || !inRange(eighths, -7, 7) || eighths == 0) {
             return BAD_VALUE;
         }
-        Move turn = new Move(script.size, beat, figure, limb);
+        Move turn = script.newMove(beat, figure, limb);
+        if (turn == null) {
+            return FULL;
+        }
         turn.eighths = eighths;
-        return script.insert(turn);
+        return turn.number;
     }
 
     public int addShift(int beat, int figure, int dx, int dy, int dplane) {
@@ -119,11 +122,14 @@ public final class JointedShadows {
         if (!isBeat(beat) || !inRange(dx, -50, 50) || !inRange(dy, -50, 50) || !inRange(dplane, -100, 100)) {
             return BAD_VALUE;
         }
-        Move shift = new Move(script.size, beat, figure, BASE);
+        Move shift = script.newMove(beat, figure, BASE);
+        if (shift == null) {
+            return FULL;
+        }
         shift.dx = dx;
         shift.dy = dy;
         shift.dplane = dplane;
-        return script.insert(shift);
+        return shift.number;
     }
 
     public int removeMoves(int n) {
@@ -466,19 +472,20 @@ public final class JointedShadows {
         final Move[] moves = new Move[MOST_MOVES];
         int size = 0;
 
-        /** Adds a move, whose number is the next one, and gives its number, or FULL. */
-        int insert(Move move) {
+        /** Adds a move with the next number, which changes nothing yet, or gives null if there is no more room. */
+        Move newMove(int beat, int figure, int limb) {
             if (size >= MOST_MOVES) {
-                return FULL;
+                return null;
             }
+            Move move = new Move(size, beat, figure, limb);
             int place = size;
-            while (place > 0 && isAfter(moves[place - 1], move.beat)) {
+            while (place > 0 && isAfter(moves[place - 1], beat)) {
                 moves[place] = moves[place - 1];
                 place--;
             }
             moves[place] = move;
             size++;
-            return move.number;
+            return move;
         }
 
         private static boolean isAfter(Move move, int beat) {

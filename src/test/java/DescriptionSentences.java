@@ -1,10 +1,9 @@
-/** The sentences of the section "Description", and the number of calls for which an object is good. */
+/** The sentences of the section "Description". */
 final class DescriptionSentences {
     private DescriptionSentences() {
     }
 
     static void tell(Sentences s) {
-        calls(s);
         s.in("Description");
         stage(s);
         figures(s);
@@ -17,17 +16,6 @@ final class DescriptionSentences {
         fractions(s);
         errors(s);
         constants(s);
-    }
-
-    private static void calls(Sentences s) {
-        s.in("What it is");
-        s.says("An object is used for at most 512 calls after it has been made", """
-                6 x addFigure(0, 0, 1) = #
-                8 x addLimb(5, -1, 20, 1) = #
-                60 x addShift(99, 5, 50, 50, 0) = #
-                437 x busiestBeat() = 99
-                box(5, 99, 1, 0) = 302000 -- the 512th call
-                """);
     }
 
     private static void stage(Sentences s) {

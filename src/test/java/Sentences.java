@@ -1,10 +1,9 @@
 import java.io.IOException;
-import java.nio.file.Files;
-import java.nio.file.Path;
 import java.util.ArrayList;
 import java.util.LinkedHashMap;
 import java.util.List;
 import java.util.Map;
+import java.util.Set;
 
 /**
  * The document's sentences, each with runs of calls that would go wrong if it were broken. A run begins with a new
@@ -13,19 +12,16 @@ import java.util.Map;
  */
 final class Sentences {
     private static final String UNTOLD_YET = "\\w";
+    /** FaceTest compares the face with the class. */
+    private static final Set<String> UNTESTED = Set.of("The public face", "Not promised");
 
     private final Due due = new Due();
     /** Each section's text, in which the sentences that have been told are blanked out. */
     private final Map<String, String> untold = new LinkedHashMap<>();
     private String section = "";
 
-    Sentences(Path document) throws IOException {
-        for (String part : Files.readString(document).split("(?m)^## ")) {
-            String[] heading = part.split("\n", 2);
-            if (heading.length == 2) {
-                untold.put(heading[0].replaceAll(":.*", ""), plainText(heading[1]));
-            }
-        }
+    Sentences() throws IOException {
+        Document.sections().forEach((name, text) -> untold.put(name, plainText(text)));
     }
 
     /** Without what is tested elsewhere (examples, signatures) and what only leads over. */
@@ -88,7 +84,7 @@ final class Sentences {
 
     void finish() {
         untold.forEach((name, text) -> {
-            if (name.equals("Description") || name.startsWith("Promise")) {
+            if (!UNTESTED.contains(name)) {
                 due.part(name);
                 boolean isTold = !text.matches("(?s).*" + UNTOLD_YET + ".*");
                 due.isTrue("every sentence has its runs, not yet: " + text, isTold);

@@ -1,10 +1,10 @@
 import java.io.IOException;
-import java.nio.file.Path;
 
-/** Every sentence of the document's description and promises; run from the project's directory. */
+/** Every sentence of the document from its first line on; run from the project's directory. */
 public final class SentencesTest {
     public static void main(String[] args) throws IOException {
-        Sentences sentences = new Sentences(Path.of("../shared/DOC.md"));
+        Sentences sentences = new Sentences();
+        FirstSentences.tell(sentences);
         DescriptionSentences.tell(sentences);
         StageSentences.tell(sentences);
         ScriptSentences.tell(sentences);
